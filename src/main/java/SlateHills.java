@@ -807,7 +807,10 @@ public final class SlateHills {
                 if (i == NONE) {
                     break;
                 }
-                gone += goOff(i);
+                size[i] = 0;
+                wentOff |= 1 << i;
+                gone += loseAround(cell[i]);
+                spreadAround(cell[i]);
             }
             harm += gone;
             return gone;
@@ -822,17 +825,6 @@ public final class SlateHills {
             return NONE;
         }
 
-        private int goOff(int i) {
-            size[i] = 0;
-            wentOff |= 1 << i;
-            for (int other = 0; other < hills; other++) {
-                if (!holds(wentOff, other) && Math.abs(cell[other] - cell[i]) <= SPREAD_REACH) {
-                    size[other] += SPREAD;
-                }
-            }
-            return loseAround(cell[i]);
-        }
-
         private int loseAround(int middle) {
             int gone = 0;
             int last = Math.min(CELLS - 1, middle + HARM_REACH);
@@ -841,6 +833,14 @@ public final class SlateHills {
                 vine[c] = 0;
             }
             return gone;
+        }
+
+        private void spreadAround(int middle) {
+            for (int i = 0; i < hills; i++) {
+                if (!holds(wentOff, i) && Math.abs(cell[i] - middle) <= SPREAD_REACH) {
+                    size[i] += SPREAD;
+                }
+            }
         }
     }
 
@@ -971,7 +971,7 @@ public final class SlateHills {
 
     /** Trials of days to come, on lands of their own, made once and used again. */
     static final class Outlook {
-        /** More than vineyards or sizes can come to, so that the first row tried is kept. */
+        /** More than can be lost, so that the first row tried is kept. */
         private static final int ABOVE_ANY = 1000000;
 
         /** lands[d] is the land behind d of the days that are tried. */
@@ -1004,7 +1004,6 @@ public final class SlateHills {
         void findPlan(Land land, int newDays) {
             startAllFrom(land, newDays);
             fewest = ABOVE_ANY;
-            leastSizes = ABOVE_ANY;
             tryRows(0, 0);
         }
 
@@ -1083,40 +1082,35 @@ public final class SlateHills {
         boolean readIsland() {
             at = 0;
             items = 0;
+            if (!readClerk()) {
+                return false;
+            }
+            step();
+            // an item takes a byte or more, so the length bounds the items
+            for (int n = 0; n < length && token == WORD; n++) {
+                boolean stands = false;
+                if (value == VINES) {
+                    stands = readVines();
+                } else if (value == HILL) {
+                    stands = readHill();
+                } else if (value == DAY) {
+                    stands = readDays();
+                }
+                if (!stands) {
+                    return false;
+                }
+                step();
+            }
+            return token == END;
+        }
+
+        private boolean readClerk() {
             step();
             if (token != WORD || value != ISLAND || !stepToNumber(KINDS - 1)) {
                 return false;
             }
             land.restart(value);
-            return stepToEndOfItem() && readItems();
-        }
-
-        private boolean readItems() {
-            step();
-            // an item takes a byte or more, so the length bounds the items
-            for (int n = 0; n < length && token != END; n++) {
-                if (!readItem()) {
-                    return false;
-                }
-                step();
-            }
-            return true;
-        }
-
-        private boolean readItem() {
-            if (token != WORD) {
-                return false;
-            }
-            switch (value) {
-                case VINES:
-                    return readVines();
-                case HILL:
-                    return readHill();
-                case DAY:
-                    return readDays();
-                default:
-                    return false;
-            }
+            return stepToEndOfItem();
         }
 
         private boolean readVines() {

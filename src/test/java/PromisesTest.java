@@ -1,3 +1,4 @@
+import java.math.BigInteger;
 import java.util.Arrays;
 
 /** Each promise by answers worked out by hand: ordinary inputs, the edges that the document names, wrong inputs. */
@@ -234,6 +235,7 @@ public final class PromisesTest {
         dueRead(" island 5 ; ", 1);
         dueRead("island0;hill0 0 0;day0;vines0 0;", 4);
         dueRead("island 05;vines 19 09;", 2);
+        dueRead("island 0;hill 5 19 59;", 2);
         dueRead("island 0;day 7 7 7 7 7 7 7 7 7;", 2);
         dueRead("island 0;hill 0 0 0;hill 0 1 0;hill 0 2 0;hill 0 3 0;hill 0 4 0;hill 0 5 0;hill 0 6 0;day 6 7;", 9);
         SlateHills x = told("island 3; vines 4 9; hill 0 10 58; day 7 7; vines 10 6; hill 4 3 59;");
@@ -257,6 +259,9 @@ public final class PromisesTest {
         dueRead("7", -10);
         dueRead("islands 0;", -10);
         dueRead("Island 0;", -10);
+        dueRead("asland 0;", -10);
+        dueRead("island 0;dayz 7;", -19);
+        dueRead("island 0;aday 7;", -19);
         dueRead("island", -16);
         dueRead("island ;", -17);
         dueRead("island 6;", -17);
@@ -317,6 +322,28 @@ public final class PromisesTest {
         due(8, "from(1) behind read()", x.from(1), 1);
         due(8, "count(6) from the image", x.count(6), 1);
         due(8, "read() again", x.read(), 3);
+        // what stood in the text before it was cleared is no part of it
+        write(x, "island 000;");
+        write(x, "island 0");
+        due(8, "read() of a shorter text", x.read(), -18);
+        write(x, "islands");
+        write(x, "island");
+        due(8, "read() of a shorter word", x.read(), -16);
+        write(x, "island    ");
+        write(x, "island");
+        due(8, "read() without its blanks", x.read(), -16);
+        fullTexts();
+    }
+
+    /** Texts of 150 bytes, with each kind of token as the last one. */
+    private static void fullTexts() {
+        dueRead(" ".repeat(150), -160);
+        dueRead(" ".repeat(144) + "island", -160);
+        dueRead(" ".repeat(142) + "island 0", -160);
+        dueRead(" ".repeat(141) + "island 0;", 1);
+        dueRead(" ".repeat(140) + "island 0;;", -159);
+        dueRead("island 0;" + " ".repeat(141), 1);
+        dueRead("island 0;" + "day 7;".repeat(23) + "   ", 24);
     }
 
     private static void day() {
@@ -423,6 +450,18 @@ public final class PromisesTest {
         due(11, "undo()", x.undo(), 0);
         due(11, "of(0, 2)", x.of(0, 2), 55);
         due(11, "undo() of no more", x.undo(), NO);
+        idle(x, 3);
+        due(11, "count(2) behind 3 days", x.count(2), 5);
+        x.day(7);
+        x.day(7);
+        x.undo();
+        due(11, "count(2) is kept by the step", x.count(2), 5);
+        x.undo();
+        x.undo();
+        due(11, "count(2) is undone", x.count(2), 0);
+        x.undo();
+        x.undo();
+        due(11, "count(3) is undone", x.count(3), 0);
         idle(x, 9);
         due(11, "count(8) behind 9 days", x.count(8), 8);
         for (int d = 8; d >= 1; d--) {
@@ -562,6 +601,10 @@ public final class PromisesTest {
         }
         due(20, "calm(6, 0)", y.calm(6, 0), LAMP);
         due(20, "calm(6, 1)", y.calm(6, 1), 0);
+        // of like ones the first is visited: the second, with the vineyards, goes off
+        SlateHills like = on(PLAIN, WALL, 4, 58, WALL, 15, 58);
+        like.vines(15, 9);
+        due(20, "calm(1, 1) of like ones", like.calm(1, 1), 13);
         due(20, "count(5) stays", y.count(5), PLAIN);
         due(20, "calm(0, 0)", y.calm(0, 0), BAD);
         due(20, "calm(31, 0)", y.calm(31, 0), BAD);
@@ -675,6 +718,15 @@ public final class PromisesTest {
         due(28, "waiting(-1) of two alike", pair.waiting(-1), 0);
         due(28, "waiting(0) of two alike", pair.waiting(0), -5);
         due(28, "waiting(0) without hills", new SlateHills().waiting(0), 77);
+        // DEAF can't help: 10 more on 48 go off, on 47 they don't
+        due(28, "waiting(-1) of 48", on(DEAF, WALL, 10, 48).waiting(-1), 2);
+        due(28, "waiting(-1) of 47", on(DEAF, WALL, 10, 47).waiting(-1), 4);
+        // once the wall names the second, both go off, whoever is visited
+        SlateHills both = on(PLAIN, WALL, 9, 58, WALL, 10, 50);
+        due(28, "waiting(-1) of two beside one another", both.waiting(-1), 3);
+        due(28, "waiting(0)", both.waiting(0), 1);
+        due(28, "waiting(1)", both.waiting(1), 11);
+        due(28, "waiting(2)", both.waiting(2), 71);
     }
 
     private static void chance() {
@@ -707,6 +759,28 @@ public final class PromisesTest {
         two.chance(2, 5, 2);
         due(29, "part(0): not two visits", two.part(0), 24);
         due(29, "part(1)", two.part(1), 25);
+        SlateHills like = on(PLAIN, WALL, 4, 58, WALL, 15, 58);
+        like.vines(15, 9);
+        like.chance(1, 13, 10);
+        due(29, "part(0): of like ones the first is visited", like.part(0), 1);
+        like.chance(1, 14, 10);
+        due(29, "part(0)", like.part(0), 0);
+    }
+
+    /** Years beside the same days, told one by one. */
+    private static void yearsByDays() {
+        for (int seed = 0; seed < 20; seed++) {
+            SlateHills y = on(PLAIN, WALL, 2, 30, GOAT, 6, 20, WIFE, 10, 40, CHILD, 14, 50);
+            int want = y.years(seed, 20);
+            BigInteger big = BigInteger.valueOf(seed);
+            for (int d = 0; d < 20; d++) {
+                big = big.multiply(BigInteger.valueOf(1103515245)).add(BigInteger.valueOf(12345))
+                        .mod(BigInteger.valueOf(2147483648L));
+                int name = big.intValue() / 65536 % 8;
+                y.day(name < 4 ? name : 7);
+            }
+            due(30, "years(" + seed + ", 20)", want, y.count(2));
+        }
     }
 
     private static void years() {
@@ -715,12 +789,48 @@ public final class PromisesTest {
         due(30, "years(0, 1)", x.years(0, 1), 0);
         due(30, "years(2, 1)", x.years(2, 1), 5);
         due(30, "years(2, 0)", x.years(2, 0), 0);
+        yearsByDays();
         due(30, "years(999999, 60)", x.years(999999, 60), 5);
         due(30, "years(-1, 0)", x.years(-1, 0), BAD);
         due(30, "years(1000000, 0)", x.years(1000000, 0), BAD);
         due(30, "years(0, -1)", x.years(0, -1), BAD);
         due(30, "years(0, 61)", x.years(0, 61), BAD);
         due(30, "count(3) stays", x.count(3), 0);
+    }
+
+    private static void imageOfFullRows() {
+        SlateHills x = on(PLAIN, WALL, 10, 50);
+        int[] seen = new int[20];
+        int[] marks = new int[18];
+        for (int n = 0; n < 5; n++) {
+            x.seen(0, n + 1, n + 2, n + 3);
+            System.arraycopy(new int[] {0, n + 1, n + 2, n + 3}, 0, seen, 4 * n, 4);
+        }
+        for (int n = 0; n < 6; n++) {
+            x.mark(n + 1, n + 2, n + 3);
+            System.arraycopy(new int[] {n + 1, n + 2, n + 3}, 0, marks, 3 * n, 3);
+        }
+        idle(x, 11);
+        x.image(0);
+        x.island(4);
+        x.hill(3, 3, 3);
+        x.seen(0, 9, 9, 9);
+        x.mark(9, 9, 9);
+        idle(x, 12);
+        due(32, "image(1)", x.image(1), 1);
+        due(33, "from(0)", x.from(0), 1);
+        dueDigest(33, "from an image of full rows", x, seen, marks);
+        due(33, "count(6)", x.count(6), 5);
+        due(33, "count(7)", x.count(7), 6);
+        for (int d = 10; d >= 3; d--) {
+            due(33, "undo() from an image", x.undo(), d);
+            due(33, "of(0, 2)", x.of(0, 2), d < 5 ? 50 + 2 * d : 2 * (d - 5));
+            due(33, "count(2)", x.count(2), d < 5 ? 0 : 5);
+        }
+        due(33, "undo() a 9th time", x.undo(), NO);
+        due(33, "from(1)", x.from(1), 1);
+        dueDigest(33, "from the other image", x, new int[] {0, 9, 9, 9}, new int[] {9, 9, 9});
+        due(33, "undo() from the other", x.undo(), 11);
     }
 
     private static void images() {
@@ -767,6 +877,7 @@ public final class PromisesTest {
         due(33, "count(0) of an image kept", x.count(0), 1);
         x.from(0);
         due(32, "count(0) of an image kept anew", x.count(0), 0);
+        imageOfFullRows();
     }
 
     private static void status() {
@@ -819,7 +930,8 @@ public final class PromisesTest {
         due(35, "count(10)", x.count(10), BAD);
         due(35, "count(-1)", x.count(-1), BAD);
         dueDigest(36, "with all", x, new int[] {1, 0, 1, 2}, new int[] {3, 4, 5, 6, 7, 8});
-        x.chance(1, 1, 7);
+        x.chance(2, 0, 7);
+        due(36, "part(0)", x.part(0), 1);
         dueDigest(36, "with a fraction", x, new int[] {1, 0, 1, 2}, new int[] {3, 4, 5, 6, 7, 8});
         x.status(9);
         dueDigest(36, "of a new object", new SlateHills(), EMPTY, EMPTY);

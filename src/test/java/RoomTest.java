@@ -84,12 +84,12 @@ public final class RoomTest {
         everyCall(x);
         long self = Thread.currentThread().getId();
         long before = threads.getThreadAllocatedBytes(self);
-        for (int n = 0; n < 50; n++) {
+        for (int n = 0; n < 200; n++) {
             everyCall(x);
         }
         long made = threads.getThreadAllocatedBytes(self) - before;
-        // what the machine itself makes beside the calls stays far below one byte a call
-        due("bytes that 50 times every call made", made, 5000);
+        // an object for each round of calls would be more than this; the machine itself may make a little
+        due("bytes that 200 times every call made", made, 3000);
         System.out.println(wrong == 0 ? "the room is kept" : wrong + " are beyond the room");
         if (wrong != 0) {
             System.exit(1);
